@@ -642,7 +642,8 @@ public final class NextBest {
         }
 
         long at(int worker, int job) {
-            return has(worker, job) ? costs[worker * MOST_JOBS + job] : NEVER;
+            boolean there = worker >= 0 && worker < workers && job >= 0 && job < jobs;
+            return there ? costs[worker * MOST_JOBS + job] : NEVER;
         }
 
         void put(int worker, int job, long v) {
@@ -1017,7 +1018,7 @@ public final class NextBest {
                 stepOverNumber();
             } else if (isLetter(sign)) {
                 stepOverWord();
-                kind = kindOfWord();
+                kind = spells("jobs") ? JOBS : spells("worker") ? WORKER : spells("x") ? BARRED : STRANGE;
             } else {
                 kind = kindOfSign(sign);
             }
@@ -1037,16 +1038,6 @@ public final class NextBest {
             while (next < tape.length && isLetter(tape.at(next))) {
                 next++;
             }
-        }
-
-        private int kindOfWord() {
-            if (spells("jobs")) {
-                return JOBS;
-            }
-            if (spells("worker")) {
-                return WORKER;
-            }
-            return spells("x") ? BARRED : STRANGE;
         }
 
         private boolean spells(String word) {
@@ -1095,7 +1086,8 @@ public final class NextBest {
      * so it counts without going through all of them.
      */
     private static final class Ranks {
-        private static final int UNBOUNDED = Integer.MAX_VALUE;
+        /* Above 8 * 7 * .. * 2, which is all the ways there can be. */
+        private static final int UNBOUNDED = 1000000;
 
         private final Grid grid;
         private final int[] many = new int[JOB_SETS];
