@@ -191,6 +191,12 @@ public final class PromiseTest {
         faultOf("\tjobs 1;", 1, 0);
         faultOf("job 1;", 1, 0);
         faultOf("jobsx 1;", 1, 0);
+        faultOf("jobsa 1;", 1, 0);
+        faultOf("jobsz 1;", 1, 0);
+        faultOf("jobs{1;", 1, 4);
+        faultOf("jobs`1;", 1, 4);
+        faultOf("jobs/1;", 1, 4);
+        faultOf("jobs:1;", 1, 4);
         faultOf(";", 1, 0);
         faultOf("worker 1;", 1, 0);
         faultOf("jobs", 1, 4);
@@ -474,6 +480,9 @@ public final class PromiseTest {
         // like measure, like sum, of unlike windows: 01 (1, 2) ahead of 10 (2, 1)
         NextBest y = Check.told("jobs 2;worker 1,2;worker 1,2;");
         due("21 like ones by rows", y.firstJob(2, 0, 0), 0);
+        // like measure 4, like sum 10, one from 1 to 5 and one from 2 to 6: by rows
+        due("21 the later window", Check.told("jobs 3;worker 6,1,x;worker x,2,5;worker 4,x,2;").firstJob(2, 0, 0), 0);
+        due("21 the earlier window", Check.told("jobs 3;worker 1,6,x;worker x,5,2;worker 2,x,4;").firstJob(2, 0, 0), 0);
         // like measure: the lesser sum, which lies in another window
         NextBest z = Check.told("jobs 4;worker 7,8,1,x;worker 7,x,x,2;");
         due("21 like measure, by sum", z.firstJob(2, 0, 0), 2);
@@ -523,6 +532,24 @@ public final class PromiseTest {
         due("24 greed", u.greedy(0), 20);
         due("24 a change, then a going", u.mended(0), 9);
         due("24 a change, then a going", u.mended(1), 2);
+        mendedTies();
+    }
+
+    private static void mendedIs(String why, String text, long sum, long steps) {
+        NextBest x = Check.told(text);
+        due("24 sum, " + why, x.mended(0), sum);
+        due("24 steps, " + why, x.mended(1), steps);
+    }
+
+    /* Tables on which another choice among like steps would end elsewhere. */
+    private static void mendedTies() {
+        mendedIs("the least two", "jobs 4;worker 6,1,2,7;worker 2,2,5,2;worker 4,6,8,8;", 8, 2);
+        mendedIs("a going first", "jobs 5;worker 0,2,1,0,1;worker 6,2,7,1,1;worker 0,4,4,6,7;", 2, 2);
+        mendedIs("a job that was left is free",
+                "jobs 6;worker 5,3,4,5,1,7;worker 6,1,8,3,0,6;worker 3,1,0,7,6,0;worker 4,2,0,2,4,6;", 2, 4);
+        mendedIs("least worker, then job", "jobs 7;worker 5,4,1,4,1,6,5;worker 6,2,0,3,3,1,0;worker 3,2,2,4,1,1,4;"
+                + "worker 6,6,0,6,4,3,6;worker 3,5,5,2,5,3,6;", 4, 4);
+        mendedIs("going to job 0", "jobs 4;worker 3,6,2,0;worker 8,7,8,0;worker 2,3,0,4;", 3, 2);
     }
 
     private static void promise25() {
@@ -737,6 +764,15 @@ public final class PromiseTest {
         z.goes(7, 1);
         due("37 the fewest", z.move(0123456, 1), 2);
         due("37 the least set", z.move(0123456, 2), 3);
+        // rings of 0 and 3 and of 1 and 2, both by -2
+        NextBest u = Check.told("jobs 4;worker 0,9,9,-1;worker 9,0,-1,9;worker 9,-1,0,9;worker -1,9,9,0;");
+        due("37 of like ones the least set", u.move(0123, 2), 6);
+        // rings of 0 and 5 and of 1, 2 and 3, both by -2: the fewest go ahead of the least set
+        NextBest v = Check.told("jobs 6;worker 0,9,9,9,9,-1;worker 9,0,-1,9,9,9;worker 9,9,0,-1,9,9;"
+                + "worker 9,0,9,0,9,9;worker 9,9,9,9,0,9;worker -1,9,9,9,9,0;");
+        due("37 by", v.move(0012345, 0), -2);
+        due("37 the fewest first", v.move(0012345, 1), 2);
+        due("37 the fewest first", v.move(0012345, 2), 33);
     }
 
     private static void promise38() {

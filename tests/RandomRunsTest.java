@@ -18,7 +18,35 @@ public final class RandomRunsTest {
             trail = "run " + run + ": ";
             oneRun(run);
         }
+        for (int one = from; one < from + 6 * runs && CHECK.wrong() == 0; one++) {
+            random = new Random(one * 104729L + 5);
+            x = new NextBest();
+            o = new Oracle();
+            trail = "table " + one + ": ";
+            oneTable();
+        }
         CHECK.finish();
+    }
+
+    /** A table on which all is asked that depends on choices among like ones. */
+    private static void oneTable() {
+        int workers = 2 + random.nextInt(4);
+        tell(text(workers, Math.min(8, workers + random.nextInt(3))));
+        for (int what = 0; what < 3; what++) {
+            due("mended(" + what + ")", x.mended(what), o.mended(what));
+            due("greedy(" + what + ")", x.greedy(what), o.greedy(what));
+            int told = told();
+            due("move(" + told + "," + what + ")", x.move(told, what), o.move(told, what));
+        }
+        for (int rule = 1; rule < 4; rule++) {
+            int limit = value();
+            due("first(" + rule + "," + limit + ")", x.first(rule, limit, 0), o.first(rule, limit, 0));
+            due("first(" + rule + "," + limit + ")", x.first(rule, limit, 1), o.first(rule, limit, 1));
+            for (int w = 0; w < workers; w++) {
+                due("firstJob(" + rule + "," + limit + "," + w + ")", x.firstJob(rule, limit, w), o.firstJob(rule, limit, w));
+                due("auctionJob(" + rule + "," + w + ")", x.auctionJob(rule, w), o.auctionJob(rule, w));
+            }
+        }
     }
 
     private static void oneRun(int run) {
