@@ -20,6 +20,7 @@ public final class NextBest {
     private final Tape tape = new Tape();
     private final Grid grid = new Grid();
     private final Ranks ranks = new Ranks(grid);
+    private final Order order = new Order(grid, ranks);
     /* What a question only supposes is laid out here, so that the grid itself stays as it is. */
     private final Grid draft = new Grid();
     private final Ranks supposed = new Ranks(draft);
@@ -63,7 +64,7 @@ public final class NextBest {
         }
         grid.copy(draft);
         history.clear();
-        ranks.refresh();
+        changed();
         return grid.workers;
     }
 
@@ -100,25 +101,22 @@ public final class NextBest {
     // ---- assignments in their order
 
     public long sum(int k) {
-        return stands(k) ? ranks.sumAt(k) : NO_SUCH;
+        return isRank(k) ? order.sumOf(k) : NO_SUCH;
     }
 
     public int job(int k, int worker) {
         if (!isRank(k) || !grid.hasWorker(worker)) {
             return UNKNOWN;
         }
-        return ranks.find(k, row) ? row[worker] : NONE;
+        return order.lay(k, row) ? row[worker] : NONE;
     }
 
     public int ties(int k) {
         if (!isRank(k)) {
             return UNKNOWN;
         }
-        if (!stands(k)) {
-            return NONE;
-        }
-        long like = ranks.sumAt(k);
-        return ranks.upTo(like) - ranks.upTo(like - 1);
+        long total = order.sumOf(k);
+        return total == NO_SUCH ? NONE : ranks.alike(total);
     }
 
     public int under(long most) {
@@ -126,7 +124,7 @@ public final class NextBest {
     }
 
     public int place(int told) {
-        return grid.decode(told, row) ? ranks.before(row, grid.sumOf(row)) : NONE;
+        return grid.decode(told, row) ? ranks.before(row) : NONE;
     }
 
     public int drawn(long seed) {
@@ -140,14 +138,14 @@ public final class NextBest {
 
     public long middle() {
         int all = ranks.all();
-        return all == 0 ? NO_SUCH : ranks.sumAt((all - 1) / 2);
+        return all == 0 ? NO_SUCH : order.sumAt((all - 1) / 2);
     }
 
     public long loss(int k) {
-        if (!stands(k)) {
+        long above = isRank(k) ? order.sumOf(k) : NO_SUCH;
+        if (above == NO_SUCH) {
             return NO_SUCH;
         }
-        long above = ranks.sumAt(k);
         for (int worker = 0; worker < grid.workers; worker++) {
             above -= grid.leastOf(worker, BY_WORKER);
         }
@@ -155,7 +153,7 @@ public final class NextBest {
     }
 
     public long dearest(int k) {
-        if (grid.workers == 0 || !isRank(k) || !ranks.find(k, row)) {
+        if (grid.workers == 0 || !isRank(k) || !order.lay(k, row)) {
             return NO_SUCH;
         }
         return grid.greatestOf(row);
@@ -165,7 +163,7 @@ public final class NextBest {
         if (!isRank(k) || !isRank(l)) {
             return UNKNOWN;
         }
-        if (!findBoth(k, l)) {
+        if (!order.lay(k, row) || !order.lay(l, otherRow)) {
             return NONE;
         }
         int unlike = 0;
@@ -181,7 +179,7 @@ public final class NextBest {
         if (!isRank(k) || !isRank(l) || what < 0 || what > 3) {
             return UNKNOWN;
         }
-        if (!findBoth(k, l)) {
+        if (!order.lay(k, row) || !order.lay(l, otherRow)) {
             return NONE;
         }
         ways.trace(row, otherRow, grid.workers);
@@ -201,13 +199,7 @@ public final class NextBest {
         if (!grid.has(worker, job) || n < 1 || n > RANKED) {
             return UNKNOWN;
         }
-        int last = Math.min(n, ranks.all()) - 1;
-        if (!ranks.find(last, row)) {
-            return 0;
-        }
-        supposeForced(worker, job);
-        int earlier = supposed.before(row, grid.sumOf(row));
-        return row[worker] == job ? earlier + 1 : earlier;
+        return order.with(worker, job, n);
     }
 
     // ---- what is forced, left out, how far a cost may go
@@ -451,7 +443,7 @@ public final class NextBest {
         if (hit > 0 && v != 0) {
             history.keep(grid);
             grid.tilt(one, v, what);
-            ranks.refresh();
+            changed();
         }
         return hit;
     }
@@ -471,7 +463,7 @@ public final class NextBest {
         } else {
             grid.addJob(v);
         }
-        ranks.refresh();
+        changed();
         return number;
     }
 
@@ -485,7 +477,7 @@ public final class NextBest {
         } else {
             grid.dropJob(one);
         }
-        ranks.refresh();
+        changed();
         return grid.howMany(what);
     }
 
@@ -498,7 +490,7 @@ public final class NextBest {
         }
         history.keep(grid);
         grid.swap(worker, other);
-        ranks.refresh();
+        changed();
         return 1;
     }
 
@@ -506,7 +498,7 @@ public final class NextBest {
         if (!history.restore(grid)) {
             return NONE;
         }
-        ranks.refresh();
+        changed();
         return history.size;
     }
 
@@ -536,12 +528,9 @@ public final class NextBest {
         return one == NO_SUCH || other == NO_SUCH ? NO_SUCH : one - other;
     }
 
-    private boolean stands(int k) {
-        return isRank(k) && k < ranks.all();
-    }
-
-    private boolean findBoth(int k, int l) {
-        return ranks.find(k, row) && ranks.find(l, otherRow);
+    private void changed() {
+        ranks.refresh();
+        order.forget();
     }
 
     private void supposeCost(int worker, int job, long v) {
@@ -566,7 +555,7 @@ public final class NextBest {
         }
         history.keep(grid);
         grid.put(worker, job, v);
-        ranks.refresh();
+        changed();
         return 1;
     }
 
@@ -1086,8 +1075,8 @@ public final class NextBest {
      * so it counts without going through all of them.
      */
     private static final class Ranks {
-        /* Above 8 * 7 * .. * 2, which is all the ways there can be. */
-        private static final int UNBOUNDED = 1000000;
+        /* Below any sum, and far from where a long goes round. */
+        private static final long LOWEST = -1000000000;
 
         private final Grid grid;
         private final int[] many = new int[JOB_SETS];
@@ -1132,52 +1121,60 @@ public final class NextBest {
         }
 
         int upTo(long most) {
-            return upToFrom(this, 0, 0, most, UNBOUNDED);
+            return between(0, 0, LOWEST, most);
         }
 
-        /** How many ways go on from a set with a sum of so much at most; it may stop at enough. */
-        private static int upToFrom(Ranks ranks, int set, int worker, long most, int enough) {
-            if (set < 0 || set >= JOB_SETS || ranks.many[set] == 0 || ranks.low[set] > most) {
+        int alike(long total) {
+            return between(0, 0, total, total);
+        }
+
+        /** How many ways go on from a set with a sum of least .. most. */
+        private int between(int set, int worker, long least, long most) {
+            if (set < 0 || set >= JOB_SETS || many[set] == 0 || low[set] > most || high[set] < least) {
                 return 0;
             }
-            if (ranks.high[set] <= most || worker >= ranks.grid.workers) {
-                return ranks.many[set];
+            if (low[set] >= least && high[set] <= most) {
+                return many[set];
             }
+            return search(this, set, worker, least, most);
+        }
+
+        /* What a glance at the next set tells is not gone into: most sets are done with so. */
+        private static int search(Ranks ranks, int set, int worker, long least, long most) {
             int found = 0;
-            for (int job = 0; job < ranks.grid.jobs && found < enough; job++) {
+            for (int job = 0; worker < ranks.grid.workers && job < ranks.grid.jobs; job++) {
+                int then = set | 1 << job;
                 long cost = ranks.grid.at(worker, job);
-                if ((set >> job & 1) == 0 && cost != NEVER) {
-                    found += upToFrom(ranks, set | 1 << job, worker + 1, most - cost, enough - found);
+                if (then == set || cost == NEVER || ranks.many[then] == 0) {
+                    continue;
+                }
+                long atLeast = least - cost;
+                long atMost = most - cost;
+                if (ranks.low[then] >= atLeast && ranks.high[then] <= atMost) {
+                    found += ranks.many[then];
+                } else if (ranks.low[then] <= atMost && ranks.high[then] >= atLeast) {
+                    found += search(ranks, then, worker + 1, atLeast, atMost);
                 }
             }
             return found;
         }
 
-        /** How many ways go on from a set with this job for the worker and exactly this sum. */
-        private int exactly(int set, int worker, int job, long total) {
-            long cost = grid.at(worker, job);
-            if (cost == NEVER || (set >> job & 1) == 1) {
-                return 0;
-            }
-            int then = set | 1 << job;
-            long rest = total - cost;
-            return upToFrom(this, then, worker + 1, rest, UNBOUNDED)
-                    - upToFrom(this, then, worker + 1, rest - 1, UNBOUNDED);
-        }
-
-        /** The sum of the k-th, which must be there. */
-        long sumAt(int k) {
-            long from = low[0];
-            long to = high[0];
-            for (int halving = 0; halving < 64 && from < to; halving++) {
-                long half = from + to >> 1;
-                if (upToFrom(this, 0, 0, half, k + 1) > k) {
-                    to = half;
-                } else {
-                    from = half + 1;
+        /** How many come ahead of an assignment. */
+        int before(int[] row) {
+            long rest = grid.sumOf(row);
+            int found = upTo(rest - 1);
+            int set = 0;
+            for (int worker = 0; worker < grid.workers && worker < row.length; worker++) {
+                for (int job = 0; job < row[worker]; job++) {
+                    long cost = grid.at(worker, job);
+                    if (cost != NEVER && (set >> job & 1) == 0) {
+                        found += between(set | 1 << job, worker + 1, rest - cost, rest - cost);
+                    }
                 }
+                set |= 1 << row[worker];
+                rest -= grid.at(worker, row[worker]);
             }
-            return from;
+            return found;
         }
 
         /** Lays out the first in the row; false if there is none. */
@@ -1203,48 +1200,192 @@ public final class NextBest {
             }
             return 0;
         }
+    }
 
-        /** Lays out the k-th in the row; false if there is none. */
-        boolean find(int k, int[] row) {
-            if (k < 0 || k >= many[0] || row.length < grid.workers) {
-                return false;
-            }
-            long rest = sumAt(k);
-            int skip = k - upTo(rest - 1);
-            int set = 0;
-            for (int worker = 0; worker < grid.workers; worker++) {
-                row[worker] = 0;
-                for (int job = 0; job < grid.jobs; job++) {
-                    int here = exactly(set, worker, job, rest);
-                    if (skip < here) {
-                        row[worker] = job;
-                        break;
-                    }
-                    skip -= here;
-                }
-                set |= 1 << row[worker];
-                rest -= grid.at(worker, row[worker]);
-            }
-            return true;
+    /** The assignments by order: the sum of any, and a list of those that calls can ask for. */
+    private static final class Order {
+        private static final int PARTS = 64;
+        private static final int PART_BITS = 6;
+        /* Sums lie within 14 times 9999 of one another, which is less than 2 to the 18th. */
+        private static final int ROUNDS = 3;
+        private static final int WIDEST = 12;
+
+        private final Grid grid;
+        private final Ranks ranks;
+        private final int[] codes = new int[RANKED];
+        private final long[] sums = new long[RANKED];
+        private boolean listed;
+        private int size;
+        private long lastSum;
+        /* Of those with the last sum only so many, the first by their rows, still belong here. */
+        private int roomForLast;
+        private final int[] parts = new int[PARTS];
+        private int shift;
+        private int skip;
+        /* Beyond this part the one that is looked for can't lie any more. */
+        private int topPart;
+        private int upToTop;
+
+        Order(Grid grid, Ranks ranks) {
+            this.grid = grid;
+            this.ranks = ranks;
         }
 
-        /** How many come ahead of a row with this sum, be that row among them or not. */
-        int before(int[] row, long total) {
-            int found = upTo(total - 1);
-            long rest = total;
-            int set = 0;
-            for (int worker = 0; worker < grid.workers && worker < row.length; worker++) {
-                for (int job = 0; job < row[worker]; job++) {
-                    found += exactly(set, worker, job, rest);
+        void forget() {
+            listed = false;
+        }
+
+        /** The sum of the k-th; NO_SUCH if there is none. */
+        long sumOf(int k) {
+            if (k == 0) {
+                return ranks.leastSum();
+            }
+            list();
+            return k > 0 && k < size ? sums[k] : NO_SUCH;
+        }
+
+        /** Lays out the k-th in the row; false if there is none. */
+        boolean lay(int k, int[] row) {
+            if (k == 0) {
+                return ranks.findFirst(row);
+            }
+            list();
+            return k > 0 && k < size && grid.decode(codes[k], row);
+        }
+
+        /** In how many of the first n the worker has the job. */
+        int with(int worker, int job, int n) {
+            list();
+            int digit = 3 * (grid.workers - 1 - worker);
+            int found = 0;
+            for (int k = 0; k < n && k < size; k++) {
+                if ((codes[k] >> digit & 7) == job) {
+                    found++;
                 }
-                long cost = grid.at(worker, row[worker]);
-                if (cost == NEVER) {
-                    return found;
-                }
-                set |= 1 << row[worker];
-                rest -= cost;
             }
             return found;
+        }
+
+        /** The sum of the k-th, which must be there, whatever k: by ever narrower parts. */
+        long sumAt(int k) {
+            long from = ranks.low[0];
+            long span = ranks.high[0] - from;
+            skip = k;
+            shift = 0;
+            while (shift < WIDEST && span >> shift >= PARTS) {
+                shift++;
+            }
+            for (int round = 0; round < ROUNDS && span > 0; round++) {
+                from += (long) partOfSkipped(from) << shift;
+                span = (1 << shift) - 1;
+                shift = Math.max(0, shift - PART_BITS);
+            }
+            return from;
+        }
+
+        /** In which part the one behind those skipped lies; what is skipped then, is so within it. */
+        private int partOfSkipped(long from) {
+            for (int part = 0; part < PARTS; part++) {
+                parts[part] = 0;
+            }
+            topPart = PARTS - 1;
+            upToTop = 0;
+            spread(this, 0, 0, -from);
+            int part = 0;
+            while (part < PARTS - 1 && skip >= parts[part]) {
+                skip -= parts[part];
+                part++;
+            }
+            return part;
+        }
+
+        /** Counts into the parts what goes on from a set; sums are told from where the parts begin. */
+        private static void spread(Order order, int set, int worker, long soFar) {
+            Ranks ranks = order.ranks;
+            for (int job = 0; worker < order.grid.workers && job < order.grid.jobs; job++) {
+                int then = set | 1 << job;
+                long cost = order.grid.at(worker, job);
+                if (then == set || cost == NEVER || ranks.many[then] == 0) {
+                    continue;
+                }
+                long least = soFar + cost + ranks.low[then];
+                long greatest = soFar + cost + ranks.high[then];
+                if (greatest < 0 || least >> order.shift > order.topPart) {
+                    continue;
+                }
+                if (least >= 0 && least >> order.shift == greatest >> order.shift) {
+                    order.addToPart((int) (least >> order.shift), ranks.many[then]);
+                } else {
+                    spread(order, then, worker + 1, soFar + cost);
+                }
+            }
+        }
+
+        private void addToPart(int part, int ways) {
+            if (part < 0 || part >= PARTS) {
+                return;
+            }
+            parts[part] += ways;
+            upToTop += ways;
+            while (topPart > 0 && upToTop - parts[topPart] > skip) {
+                upToTop -= parts[topPart];
+                topPart--;
+            }
+        }
+
+        private void list() {
+            if (listed) {
+                return;
+            }
+            listed = true;
+            size = 0;
+            int wanted = Math.min(RANKED, ranks.all());
+            if (wanted > 0) {
+                lastSum = sumAt(wanted - 1);
+                roomForLast = wanted - ranks.upTo(lastSum - 1);
+                collect(this, 0, 0, 0, 0);
+            }
+        }
+
+        /** Goes through the rows by their order, where the least sum ahead still belongs here. */
+        private static void collect(Order order, int set, int worker, long soFar, int code) {
+            if (worker >= order.grid.workers) {
+                order.add(code, soFar);
+                return;
+            }
+            for (int job = 0; job < order.grid.jobs; job++) {
+                int then = set | 1 << job;
+                long cost = order.grid.at(worker, job);
+                if (then != set && cost != NEVER && order.ranks.many[then] > 0) {
+                    long total = soFar + cost;
+                    if (order.belongs(total + order.ranks.low[then])) {
+                        collect(order, then, worker + 1, total, code * 8 + job);
+                    }
+                }
+            }
+        }
+
+        private boolean belongs(long total) {
+            return total < lastSum || total == lastSum && roomForLast > 0;
+        }
+
+        /* It goes behind those of like sum, which came ahead of it by their rows. */
+        private void add(int code, long total) {
+            if (size >= RANKED) {
+                return;
+            }
+            int at = size;
+            while (at > 0 && sums[at - 1] > total) {
+                sums[at] = sums[at - 1];
+                codes[at] = codes[at - 1];
+                at--;
+            }
+            sums[at] = total;
+            codes[at] = code;
+            size++;
+            if (total == lastSum) {
+                roomForLast--;
+            }
         }
     }
 
