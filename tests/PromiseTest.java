@@ -482,6 +482,7 @@ public final class PromiseTest {
         due("21 like ones by rows", y.firstJob(2, 0, 0), 0);
         // like measure 4, like sum 10, one from 1 to 5 and one from 2 to 6: by rows
         due("21 the later window", Check.told("jobs 3;worker 6,1,x;worker x,2,5;worker 4,x,2;").firstJob(2, 0, 0), 0);
+        due("21 by the first worker", Check.told("jobs 3;worker 6,1,x;worker 5,x,2;worker x,2,4;").firstJob(2, 0, 0), 0);
         due("21 the earlier window", Check.told("jobs 3;worker 1,6,x;worker x,5,2;worker 2,x,4;").firstJob(2, 0, 0), 0);
         // like measure: the lesser sum, which lies in another window
         NextBest z = Check.told("jobs 4;worker 7,8,1,x;worker 7,x,x,2;");
