@@ -6,12 +6,9 @@ public final class PromiseTest {
     private static final int MIN = Integer.MIN_VALUE;
     private static final int MAX = Integer.MAX_VALUE;
 
-    /* By order: 102 (5), 012 (6), 210 (6), 201 (7), 120 (9), 021 (11). */
-    private static final String SQUARE = "jobs 3;worker 4,1,3;worker 2,0,5;worker 3,2,2;";
-    /* By order: 31 (-1), 32 (2), 01 (3), 02 (6). */
-    private static final String WIDE = "jobs 4;worker 5,x,x,1;worker x,-2,1,x;";
-    /* Nobody can be placed with the other. */
-    private static final String STUCK = "jobs 2;worker x,3;worker x,-4;";
+    private static final String SQUARE = Tables.SQUARE;
+    private static final String WIDE = Tables.WIDE;
+    private static final String STUCK = Tables.STUCK;
 
     private static final Check CHECK = new Check("PromiseTest");
 
@@ -69,17 +66,6 @@ public final class PromiseTest {
         promise46();
         promise47();
         CHECK.finish();
-    }
-
-    private static NextBest full() {
-        NextBest x = new NextBest();
-        for (int i = 0; i < 8; i++) {
-            x.comes(1, 0);
-        }
-        for (int i = 0; i < 7; i++) {
-            x.comes(0, 0);
-        }
-        return x;
     }
 
     private static void promise1() {
@@ -258,7 +244,7 @@ public final class PromiseTest {
         due("6 bytes", x.count(5), 4);
         due("6 others", x.count(6), NONE);
         due("6 others", x.count(-1), NONE);
-        due("6 all there can be", full().count(3), 40320);
+        due("6 all there can be", Tables.full().count(3), 40320);
         due("6 more workers than jobs", Check.told("jobs 1;worker 1;worker 1;").count(3), 0);
     }
 
@@ -282,7 +268,7 @@ public final class PromiseTest {
         due("8 not so many", x.sum(6), NO);
         due("8 below", x.sum(-1), NO);
         due("8 none at all", Check.told(STUCK).sum(0), NO);
-        NextBest y = full();
+        NextBest y = Tables.full();
         y.sets(0, 0, -9999);
         y.sets(1, 1, -9999);
         due("8 the first", y.sum(0), -19998);
@@ -304,7 +290,7 @@ public final class PromiseTest {
         due("9 no k", x.job(200, 0), -2);
         due("9 no k", x.job(-1, 0), -2);
         // like sums by their rows: 0123456, 0123457, 0123465, ..
-        NextBest y = full();
+        NextBest y = Tables.full();
         due("9 like sums", y.job(1, 6), 7);
         due("9 like sums", y.job(2, 5), 6);
         due("9 like sums", y.job(2, 6), 5);
@@ -319,7 +305,7 @@ public final class PromiseTest {
         due("10 no k", x.ties(200), -2);
         due("10 no k", x.ties(MIN), -2);
         due("10 none at all", Check.told(STUCK).ties(0), NONE);
-        due("10 all alike", full().ties(199), 40320);
+        due("10 all alike", Tables.full().ties(199), 40320);
     }
 
     private static void promise11() {
@@ -345,7 +331,7 @@ public final class PromiseTest {
         due("12 below 0", x.place(-1), NONE);
         due("12 min", x.place(MIN), NONE);
         due("12 never", Check.told(WIDE).place(013), NONE);
-        due("12 the last of all", full().place(07654321), 40319);
+        due("12 the last of all", Tables.full().place(07654321), 40319);
     }
 
     private static void promise13() {
@@ -413,7 +399,7 @@ public final class PromiseTest {
         due("17 no worker", x.ever(3), -2);
         due("17 no worker", x.ever(-1), -2);
         due("17 none", Check.told(STUCK).ever(0), 0);
-        due("17 all", full().ever(3), 255);
+        due("17 all", Tables.full().ever(3), 255);
     }
 
     private static void promise18() {
@@ -610,8 +596,8 @@ public final class PromiseTest {
         // 1442695040888963407 >>> 33 is 167951807
         due("28 seed 0", x.drawn(0), 167951807 % 6);
         // the round is of 2^64: 5 times the one and the other
-        due("28 going round", full().drawn(5), (int) ((5 * 6364136223846793005L + 1442695040888963407L >>> 33) % 40320));
-        due("28 below 0", full().drawn(-1), (int) ((1442695040888963407L - 6364136223846793005L >>> 33) % 40320));
+        due("28 going round", Tables.full().drawn(5), (int) ((5 * 6364136223846793005L + 1442695040888963407L >>> 33) % 40320));
+        due("28 below 0", Tables.full().drawn(-1), (int) ((1442695040888963407L - 6364136223846793005L >>> 33) % 40320));
         due("28 none", Check.told(STUCK).drawn(0), NONE);
         due("28 one", new NextBest().drawn(Long.MIN_VALUE), 0);
     }
@@ -707,9 +693,9 @@ public final class PromiseTest {
         due("34 no job", x.often(0, 3, 1), -2);
         due("34 none", Check.told(STUCK).often(0, 1, 9), 0);
         // all alike: the first 200 begin with 01, the last 80 of them with 013
-        due("34 like ones by rows", full().often(1, 1, 200), 200);
-        due("34 like ones by rows", full().often(2, 2, 200), 120);
-        due("34 like ones by rows", full().often(2, 3, 200), 80);
+        due("34 like ones by rows", Tables.full().often(1, 1, 200), 200);
+        due("34 like ones by rows", Tables.full().often(2, 2, 200), 120);
+        due("34 like ones by rows", Tables.full().often(2, 3, 200), 80);
     }
 
     private static void promise35() {
@@ -731,12 +717,7 @@ public final class PromiseTest {
         due("36 one for none", Check.told("jobs 2;worker 1,1;worker x,x;").blocked(), 2);
         due("36 three for two", Check.told("jobs 3;worker 1,1,1;worker 1,x,1;worker 1,x,x;worker x,x,2;").blocked(), 14);
         due("36 of unlike jobs together", Check.told(WIDE).blocked(), 0);
-        due("36 no jobs", withWorker(new NextBest()).blocked(), 1);
-    }
-
-    private static NextBest withWorker(NextBest x) {
-        x.comes(0, 0);
-        return x;
+        due("36 no jobs", Tables.jobless(1).blocked(), 1);
     }
 
     private static void promise37() {
@@ -758,7 +739,7 @@ public final class PromiseTest {
         due("37 chain", y.move(002, 1), 1);
         due("37 chain", y.move(002, 2), 1);
         // all alike: a chain of one, of the least worker
-        NextBest z = full();
+        NextBest z = Tables.full();
         due("37 the fewest", z.move(0123456, 1), 1);
         due("37 the least set", z.move(0123456, 2), 1);
         // no job is left over: a ring of two, of the least set
@@ -781,7 +762,7 @@ public final class PromiseTest {
         due("38 of four the second", Check.told(WIDE).middle(), 2);
         due("38 one", new NextBest().middle(), 0);
         due("38 none", Check.told(STUCK).middle(), NO);
-        NextBest x = full();
+        NextBest x = Tables.full();
         x.tilts(3, 5, 0);
         due("38 many", x.middle(), 5);
     }
@@ -806,7 +787,7 @@ public final class PromiseTest {
         due("40 noughts", Check.told(WIDE).noughts(), 4);
         due("40 never is none", Check.told("jobs 2;worker x,x;").noughts(), 0);
         due("40 no workers", new NextBest().noughts(), 0);
-        due("40 all", full().noughts(), 56);
+        due("40 all", Tables.full().noughts(), 56);
     }
 
     private static void promise41() {
@@ -871,7 +852,7 @@ public final class PromiseTest {
         due("44 no what", x.comes(2, 0), -2);
         due("44 no what", x.comes(-1, 0), -2);
         due("44 acts", x.count(4), 2);
-        NextBest y = full();
+        NextBest y = Tables.full();
         due("44 seven", y.comes(0, 0), -5);
         due("44 eight", y.comes(1, 0), -5);
         due("44 ahead of -5", y.comes(1, 10000), -2);

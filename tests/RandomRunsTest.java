@@ -134,10 +134,7 @@ public final class RandomRunsTest {
         }
         due("end(0)", x.end(0), o.end(0));
         for (int i = 0; i < text.length(); i += 20) {
-            int[] n = new int[5];
-            for (int b = 0; b < 20; b++) {
-                n[b / 4] = n[b / 4] << 8 | (i + b < text.length() ? text.charAt(i + b) & 255 : 0);
-            }
+            int[] n = Check.numbers(text, i);
             due("feed", x.feed(n[0], n[1], n[2], n[3], n[4]), o.feed(n));
         }
         due("end", x.end(text.length()), o.end(text.length()));

@@ -22,6 +22,10 @@ public final class Check {
         return wrong;
     }
 
+    public int made() {
+        return made;
+    }
+
     public void finish() {
         System.out.println(name + ": " + made + " answers, " + wrong + " not as due");
         if (wrong != 0 || made == 0) {
@@ -33,9 +37,20 @@ public final class Check {
     public static int lay(NextBest x, String text) {
         int before = x.count(5);
         for (int i = 0; i < text.length(); i += 20) {
-            x.feed(four(text, i), four(text, i + 4), four(text, i + 8), four(text, i + 12), four(text, i + 16));
+            int[] n = numbers(text, i);
+            x.feed(n[0], n[1], n[2], n[3], n[4]);
         }
         return x.end(before + text.length());
+    }
+
+    /** Twenty bytes of the text as five numbers, noughts where it has none. */
+    public static int[] numbers(String text, int from) {
+        int[] numbers = new int[5];
+        for (int i = 0; i < 20; i++) {
+            int sign = from + i < text.length() ? text.charAt(from + i) & 255 : 0;
+            numbers[i / 4] = numbers[i / 4] << 8 | sign;
+        }
+        return numbers;
     }
 
     public static int tell(NextBest x, String text) {
@@ -47,13 +62,5 @@ public final class Check {
         NextBest x = new NextBest();
         tell(x, text);
         return x;
-    }
-
-    private static int four(String text, int from) {
-        int number = 0;
-        for (int i = from; i < from + 4; i++) {
-            number = number << 8 | (i < text.length() ? text.charAt(i) & 255 : 0);
-        }
-        return number;
     }
 }
