@@ -7,21 +7,27 @@ public final class RandomRunsTest {
     private static NextBest x;
     private static Oracle o;
     private static String trail;
+    /* An object takes 512 calls; one round of a run makes at most so many. */
+    private static final int MOST_CALLS = 512;
+    private static final int MOST_IN_ROUND = 212;
+    private static int calls;
 
     public static void main(String[] args) {
-        int runs = args.length > 0 ? Integer.parseInt(args[0]) : 260;
+        int runs = args.length > 0 ? Integer.parseInt(args[0]) : 1500;
         int from = args.length > 1 ? Integer.parseInt(args[1]) : 0;
         for (int run = from; run < from + runs && CHECK.wrong() == 0; run++) {
             random = new Random(run * 7919L + 17);
             x = new NextBest();
             o = new Oracle();
+            calls = 0;
             trail = "run " + run + ": ";
             oneRun(run);
         }
-        for (int one = from; one < from + 6 * runs && CHECK.wrong() == 0; one++) {
+        for (int one = from; one < from + 3 * runs && CHECK.wrong() == 0; one++) {
             random = new Random(one * 104729L + 5);
             x = new NextBest();
             o = new Oracle();
+            calls = 0;
             trail = "table " + one + ": ";
             oneTable();
         }
@@ -55,8 +61,8 @@ public final class RandomRunsTest {
         int workers = big ? 6 + random.nextInt(2) : random.nextInt(5);
         int jobs = big ? 7 + random.nextInt(2) : Math.max(1, Math.min(8, workers - 1 + random.nextInt(4)));
         tell(text(workers, jobs));
-        int calls = big ? 60 : 250;
-        for (int i = 0; i < calls && CHECK.wrong() == 0; i++) {
+        int rounds = big ? 60 : 250;
+        for (int i = 0; i < rounds && calls + MOST_IN_ROUND <= MOST_CALLS && CHECK.wrong() == 0; i++) {
             if (random.nextInt(big ? 20 : 5) == 0) {
                 act();
             } else {
@@ -71,7 +77,12 @@ public final class RandomRunsTest {
         }
     }
 
+    /** Each call on the object is looked at here, so here they are counted. */
     private static void due(String call, long got, long want) {
+        calls++;
+        if (calls > MOST_CALLS) {
+            CHECK.due(trail + "calls of one object", calls, MOST_CALLS);
+        }
         CHECK.due(trail + call, got, want);
         if (got != want) {
             describe();

@@ -31,7 +31,7 @@ final class ActSentences extends Sentences {
         x.sets(0, 0, 6);
         x.bars(0, 0);
         x.sets(0, 0, 7);
-        for (int i = 0; i < 3; i++) {
+        for (int i = 0; i < 2; i++) {
             leaves(x, "sets what it is", () -> x.sets(0, 0, 7), 0);
             leaves(x, "bars what is so", () -> x.bars(0, 1), 0);
             leaves(x, "tilts by 0", () -> x.tilts(0, 0, 0), 2);
@@ -232,15 +232,14 @@ final class ActSentences extends Sentences {
             leaves(across, "one more", () -> across.tilts(1, 19999, 0), -5);
         });
         says("-2: there are none such.", () -> {
-            NextBest x = Check.told(Tables.WIDE);
             for (int what : new int[] {-1, 2, 3, MIN, MAX}) {
-                leaves(x, "what " + what, () -> x.tilts(0, 1, what), -2);
+                leaves(Tables.WIDE, "what " + what, x -> x.tilts(0, 1, what), -2);
             }
             for (int one : new int[] {-1, 4, 8, MIN, MAX}) {
-                leaves(x, "worker " + one, () -> x.tilts(one, 1, 0), -2);
-                leaves(x, "job " + one, () -> x.tilts(one, 1, 1), -2);
+                leaves(Tables.WIDE, "worker " + one, x -> x.tilts(one, 1, 0), -2);
+                leaves(Tables.WIDE, "job " + one, x -> x.tilts(one, 1, 1), -2);
             }
-            leaves(x, "worker 2 of 2", () -> x.tilts(2, 0, 0), -2);
+            leaves(Tables.WIDE, "worker 2 of 2", x -> x.tilts(2, 0, 0), -2);
             NextBest none = new NextBest();
             leaves(none, "no worker", () -> none.tilts(0, 0, 0), -2);
             leaves(none, "no job", () -> none.tilts(0, 0, 1), -2);
@@ -286,13 +285,12 @@ final class ActSentences extends Sentences {
             leaves(x, "an 8th again", () -> x.comes(0, 3), -5);
         });
         says("-2: there are none such.", () -> {
-            NextBest x = Check.told(Tables.WIDE);
             for (int what : new int[] {-1, 2, 3, MIN, MAX}) {
-                leaves(x, "what " + what, () -> x.comes(what, 0), -2);
+                leaves(Tables.WIDE, "what " + what, x -> x.comes(what, 0), -2);
             }
             for (int v : NO_VALUES) {
-                leaves(x, "a worker of " + v, () -> x.comes(0, v), -2);
-                leaves(x, "a job of " + v, () -> x.comes(1, v), -2);
+                leaves(Tables.WIDE, "a worker of " + v, x -> x.comes(0, v), -2);
+                leaves(Tables.WIDE, "a job of " + v, x -> x.comes(1, v), -2);
             }
         });
     }
@@ -322,14 +320,13 @@ final class ActSentences extends Sentences {
             due("the only job, with workers", Check.told("jobs 1;worker 1;worker 1;").goes(0, 1), 0);
         });
         says("-2: there are none such.", () -> {
-            NextBest x = Check.told(Tables.WIDE);
             for (int one : new int[] {-1, 4, 8, MIN, MAX}) {
-                leaves(x, "worker " + one, () -> x.goes(one, 0), -2);
-                leaves(x, "job " + one, () -> x.goes(one, 1), -2);
+                leaves(Tables.WIDE, "worker " + one, x -> x.goes(one, 0), -2);
+                leaves(Tables.WIDE, "job " + one, x -> x.goes(one, 1), -2);
             }
-            leaves(x, "worker 2 of 2", () -> x.goes(2, 0), -2);
+            leaves(Tables.WIDE, "worker 2 of 2", x -> x.goes(2, 0), -2);
             for (int what : new int[] {-1, 2, MIN, MAX}) {
-                leaves(x, "what " + what, () -> x.goes(0, what), -2);
+                leaves(Tables.WIDE, "what " + what, x -> x.goes(0, what), -2);
             }
             NextBest none = new NextBest();
             leaves(none, "no worker", () -> none.goes(0, 0), -2);
@@ -354,6 +351,7 @@ final class ActSentences extends Sentences {
             }
             NextBest like = Check.told("jobs 3;worker 1,x,2;worker 1,x,2;worker 1,x,3;worker 1,x,x;");
             leaves(like, "alike", () -> like.turn(0, 1), 0);
+            due("the first cost alone is another", Check.told("jobs 2;worker 1,5;worker 2,5;").turn(0, 1), 1);
             due("the last cost is another", like.turn(0, 2), 1);
             due("NEVER is another", like.turn(1, 3), 1);
             due("cost", like.cost(1, 2), NEVER);
@@ -361,11 +359,10 @@ final class ActSentences extends Sentences {
             due("without jobs", Tables.jobless(2).turn(0, 1), 0);
         });
         says("-2: there are none such.", () -> {
-            NextBest x = Check.told(Tables.SQUARE);
             for (int one : new int[] {-1, 3, 7, MIN, MAX}) {
-                leaves(x, "the one " + one, () -> x.turn(one, 0), -2);
-                leaves(x, "the other " + one, () -> x.turn(0, one), -2);
-                leaves(x, "both " + one, () -> x.turn(one, one), -2);
+                leaves(Tables.SQUARE, "the one " + one, x -> x.turn(one, 0), -2);
+                leaves(Tables.SQUARE, "the other " + one, x -> x.turn(0, one), -2);
+                leaves(Tables.SQUARE, "both " + one, x -> x.turn(one, one), -2);
             }
             due("worker 7 of 7", Tables.full().turn(7, 0), -2);
             due("without workers", new NextBest().turn(0, 0), -2);

@@ -64,8 +64,16 @@ final class ChoiceSentences extends Sentences {
         // like measures and sums: 01 (5, 1), 21 (5, 1)
         firstIs(Check.told("jobs 3;worker 5,x,5;worker 3,1,x;"), 1, 0, 5, 6, 0, 1);
         firstIs(Check.told("jobs 2;worker 1,2;worker 1,2;"), 2, 0, 1, 3, 0, 1);
+        // the lesser spread goes ahead of the lesser sum: 01 (5, 6), 10 (0, 3)
+        firstIs(Check.told("jobs 2;worker 5,0;worker 3,6;"), 2, 0, 1, 11, 0, 1);
         // of like spread: 7, 7 and 8, 7 are dearer than 1, 2
         firstIs(Check.told("jobs 4;worker x,8,1,x;worker 7,x,x,2;"), 2, 0, 1, 3, 2, 3);
+        // the lesser greatest cost goes ahead of the lesser sum, below 0 too: 01 (-5, -2), 10 (-1, -9)
+        firstIs(Check.told("jobs 2;worker -5,-1;worker -9,-2;"), 1, 0, -2, -7, 0, 1);
+        // like spread 4 and like sum 10, one from 1 to 5 and one from 2 to 6: by rows
+        firstIs(Check.told("jobs 3;worker 6,1,x;worker x,2,5;worker 4,x,2;"), 2, 0, 4, 10, 0, 1, 2);
+        firstIs(Check.told("jobs 3;worker 6,1,x;worker 5,x,2;worker x,2,4;"), 2, 0, 4, 10, 0, 2, 1);
+        firstIs(Check.told("jobs 3;worker 1,6,x;worker x,5,2;worker 2,x,4;"), 2, 0, 4, 10, 0, 1, 2);
         firstIs(Check.told(Tables.SQUARE), 3, 100, 0, 5, 1, 0, 2);
         for (int rule = 0; rule < 4; rule++) {
             firstIs(Tables.full(), rule, 0, 0, 0, 0, 1, 2, 3, 4, 5, 6);
@@ -277,13 +285,12 @@ final class ChoiceSentences extends Sentences {
     private void first() {
         under("Promise 20: first");
         says("The first ASSIGNMENT by a RULE (0 .. 3), what 0: its MEASURE, 1: its SUM.", () -> {
-            NextBest x = Check.told(RULED);
             long[][] due = {{9, 9}, {5, 9}, {2, 18}, {1, 9}};
             for (int rule = 0; rule < 4; rule++) {
                 for (int what = 0; what < 2; what++) {
                     int by = rule;
                     int which = what;
-                    leaves(x, "first(" + rule + ", 4, " + what + ")", () -> x.first(by, 4, which), due[rule][what]);
+                    leaves(RULED, "first(" + rule + ", 4, " + what + ")", x -> x.first(by, 4, which), due[rule][what]);
                 }
             }
         });

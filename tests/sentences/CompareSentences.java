@@ -38,6 +38,7 @@ final class CompareSentences extends Sentences {
             due("the 5th of 4", x.apart(0, 4), NONE);
             due("the 5th of 4", x.apart(4, 4), NONE);
             due("of none", Check.told(Tables.STUCK).apart(0, 0), NONE);
+            due("the 3rd of 2", Check.told("jobs 2;worker 1,2;").apart(0, 2), NONE);
             due("199 of 199", Check.told(Tables.ALL_199).apart(0, 199), NONE);
             due("199 of 200", Check.told(Tables.ALL_200).apart(199, 199), 0);
             for (int k : NO_RANKS) {
@@ -116,10 +117,10 @@ final class CompareSentences extends Sentences {
     }
 
     private void moveIs(String text, int told, long change, long fewest, long set) {
-        NextBest x = Check.told(text);
-        leaves(x, "change from " + Integer.toOctalString(told), () -> x.move(told, 0), change);
-        leaves(x, "fewest from " + Integer.toOctalString(told), () -> x.move(told, 1), fewest);
-        leaves(x, "set from " + Integer.toOctalString(told), () -> x.move(told, 2), set);
+        String from = " from " + Integer.toOctalString(told) + " of " + text;
+        leaves(text, "change" + from, x -> x.move(told, 0), change);
+        leaves(text, "fewest" + from, x -> x.move(told, 1), fewest);
+        leaves(text, "set" + from, x -> x.move(told, 2), set);
     }
 
     private void move() {
@@ -142,6 +143,8 @@ final class CompareSentences extends Sentences {
             moveIs("jobs 2;worker 5,3;", 1, 2, 1, 1);
             moveIs("jobs 3;worker 5,x,9;", 0, 4, 1, 1);
             moveIs(ALONG, 0123456, -5, 7, 127);
+            // worker 1 takes the job of worker 0, who goes to job 2
+            moveIs("jobs 3;worker 0,x,0;worker -5,0,x;", 001, -5, 2, 3);
             moveIs("jobs 2;worker 5,x;", 0, NO, NO, NO);
             moveIs("jobs 3;worker 0,-9,x;worker x,0,x;", 001, NO, NO, NO);
         });
@@ -164,6 +167,12 @@ final class CompareSentences extends Sentences {
             NextBest x = Check.told(two);
             x.sets(1, 3, 1);
             due("the lesser of two is dearer", x.move(0012, 2), 4);
+            // rings of 0 and 3 and of 1 and 2, both by -2
+            due("the lesser of two rings", Check.told("jobs 4;worker 0,9,9,-1;worker 9,0,-1,9;worker 9,-1,0,9;worker -1,9,9,0;")
+                    .move(0123, 2), 6);
+            // rings of 0 and 5 and of 1, 2 and 3, both by -2
+            due("the fewest ahead of the least", Check.told("jobs 6;worker 0,9,9,9,9,-1;worker 9,0,-1,9,9,9;worker 9,9,0,-1,9,9;"
+                    + "worker 9,0,9,0,9,9;worker 9,9,9,9,0,9;worker -1,9,9,9,9,0;").move(0012345, 2), 33);
             // workers 0 and 1 by -1 together, worker 2 by -1 alone
             due("the fewest ahead of the least", Check.told("jobs 5;worker 0,-1,x,x,x;worker x,0,x,0,x;worker x,x,0,x,-1;").move(0012, 2), 4);
         });

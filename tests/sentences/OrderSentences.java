@@ -53,6 +53,20 @@ final class OrderSentences extends Sentences {
         NextBest x = Check.told("jobs 2;worker -9999,9999;worker 9999,-9999;");
         due("the one end", x.sum(0), -19998);
         due("the other end", x.sum(1), 19998);
+        // each worker has two jobs, and all go on to the dearer one together
+        StringBuilder ring = new StringBuilder("jobs 7;");
+        for (int worker = 0; worker < 7; worker++) {
+            String[] costs = {"x", "x", "x", "x", "x", "x", "x"};
+            costs[worker] = "-9999";
+            costs[(worker + 1) % 7] = "9999";
+            ring.append("worker ").append(String.join(",", costs)).append(';');
+        }
+        NextBest farthest = Check.told(ring.toString());
+        due("two", farthest.count(3), 2);
+        due("the least", farthest.sum(0), -69993);
+        due("the greatest", farthest.sum(1), 69993);
+        due("below the greatest", farthest.under(69992), 1);
+        due("in the middle", farthest.middle(), -69993);
     }
 
     private void order() {
@@ -71,6 +85,47 @@ final class OrderSentences extends Sentences {
         most.sets(6, 1, -1);
         due("the least sum", most.sum(0), -1);
         rowIs(most, 0, 0, 2, 3, 4, 5, 6, 1);
+        inOrder(7, 8, 19999);
+        inOrder(7, 7, 5);
+        inOrder(6, 8, 300);
+        inOrder(5, 6, 3);
+        inOrder(4, 5, 40);
+        inOrder(3, 3, 2);
+    }
+
+    /** Costs all over a span, the middle of which is 0. */
+    private static NextBest uneven(int workers, int jobs, int span) {
+        NextBest x = Tables.even(workers, jobs, 0);
+        for (int i = 0; i < workers * jobs; i++) {
+            x.sets(i / jobs, i % jobs, (i * 7919 + 31) % 9973 * 4801 % span - span / 2);
+        }
+        return x;
+    }
+
+    /** Each of the first ones has a sum that just so many are below or at, rows that go up, and its own place. */
+    private void inOrder(int workers, int jobs, int span) {
+        long last = NO;
+        int lastTold = 0;
+        int many = Math.min(200, uneven(workers, jobs, span).count(3));
+        for (int k = 0; k < many; k += k < 8 || k > 190 ? 1 : 9) {
+            // a new one each time, so that none takes more calls than an object may
+            NextBest x = uneven(workers, jobs, span);
+            long sum = x.sum(k);
+            int told = 0;
+            long costs = 0;
+            for (int worker = 0; worker < workers; worker++) {
+                told = told * 8 + x.job(k, worker);
+                costs += x.cost(worker, x.job(k, worker));
+            }
+            due("the costs of " + k, costs, sum);
+            due("goes up at " + k, sum > last || sum == last && told > lastTold ? 1 : 0, 1);
+            due("enough are at most as dear as " + k, x.under(sum) > k ? 1 : 0, 1);
+            due("not too many are cheaper than " + k, x.under(sum - 1) <= k ? 1 : 0, 1);
+            due("like ones of " + k, x.ties(k), x.under(sum) - x.under(sum - 1));
+            due("place of " + k, x.place(told), k);
+            last = sum;
+            lastTold = told;
+        }
     }
 
     private void withoutWorkers() {
@@ -126,6 +181,16 @@ final class OrderSentences extends Sentences {
             due("of none", Check.told(Tables.STUCK).job(0, 1), NONE);
             due("no jobs", Tables.jobless(1).job(0, 0), NONE);
             due("199 of 199", Check.told(Tables.ALL_199).job(199, 3), NONE);
+            due("the 3rd of 2", Check.told("jobs 2;worker 1,2;").job(2, 0), NONE);
+            // fewer than there were when they were last asked for
+            NextBest fewer = Check.told(Tables.SQUARE);
+            due("the 6th of 6", fewer.job(5, 0), 0);
+            fewer.bars(0, 0);
+            due("the 4th of 4", fewer.job(3, 0), 1);
+            for (int k = 4; k < 7; k++) {
+                due(k + " of 4", fewer.job(k, 0), NONE);
+                due(k + " of 4", fewer.sum(k), NO);
+            }
         });
         says("-2: k is not 0 .. 199, there is no such WORKER.", () -> {
             NextBest x = Check.told(Tables.WIDE);
@@ -223,6 +288,9 @@ final class OrderSentences extends Sentences {
         says("(longs, going round),", () -> {
             due("seed 9223372036854775807", Tables.full().drawn(Long.MAX_VALUE), 36264);
             due("seed 9223372036854775807, of six", Check.told(Tables.SQUARE).drawn(Long.MAX_VALUE), 0);
+            // of these the lower 33 bits are all 0, all 1: the last digit counts
+            due("seed 559108117", Tables.full().drawn(559108117L), 31617);
+            due("seed 4004849520", Tables.full().drawn(4004849520L), 12148);
         });
         says("shifted right by 33 without sign,", () -> {
             // the highest bit is set in each of these
@@ -306,6 +374,8 @@ final class OrderSentences extends Sentences {
             due("200 of 6", Check.told(Tables.SQUARE).often(0, 0, 200), 2);
             due("7 of 6", Check.told(Tables.SQUARE).often(2, 2, 7), 2);
             due("1", Check.told(Tables.SQUARE).often(0, 1, 1), 1);
+            due("1 of 1", Check.told("jobs 1;worker 3;").often(0, 0, 1), 1);
+            due("200 of 1", Check.told("jobs 1;worker 3;").often(0, 0, 200), 1);
             due("of none", Check.told(Tables.STUCK).often(0, 1, 200), 0);
             due("NEVER", Check.told(Tables.WIDE).often(0, 1, 200), 0);
             due("199 of 40320", Tables.full().often(2, 3, 199), 79);
@@ -354,6 +424,11 @@ final class OrderSentences extends Sentences {
             NextBest x = Tables.full();
             x.tilts(7, 1, 1);
             due("beyond what can be asked for", x.middle(), 1);
+            for (NextBest y : new NextBest[] {uneven(7, 8, 19999), uneven(7, 7, 5), uneven(6, 8, 300), uneven(2, 3, 19999)}) {
+                int k = (y.count(3) - 1) / 2;
+                due("enough are at most so dear", y.under(y.middle()) > k ? 1 : 0, 1);
+                due("not too many are cheaper", y.under(y.middle() - 1) <= k ? 1 : 0, 1);
+            }
         });
         says("NO_SUCH: there are none.", () -> {
             due("stuck", Check.told(Tables.STUCK).middle(), NO);

@@ -49,13 +49,12 @@ final class SupposedSentences extends Sentences {
     private void forced() {
         under("Promise 13: forced");
         says("The least SUM of ASSIGNMENTS in which a WORKER has a JOB.", () -> {
-            NextBest x = Check.told(Tables.SQUARE);
             long[][] due = {{6, 5, 6}, {5, 6, 9}, {6, 7, 5}};
             for (int worker = 0; worker < 3; worker++) {
                 for (int job = 0; job < 3; job++) {
                     int at = worker;
                     int which = job;
-                    leaves(x, "forced(" + worker + ", " + job + ")", () -> x.forced(at, which), due[worker][job]);
+                    leaves(Tables.SQUARE, "forced(" + worker + ", " + job + ")", x -> x.forced(at, which), due[worker][job]);
                 }
             }
             due("the last of all", Tables.even(7, 8, -9999).forced(6, 7), -69993);
@@ -71,13 +70,12 @@ final class SupposedSentences extends Sentences {
     private void without() {
         under("Promise 14: without");
         says("The least SUM of those in which the WORKER has not that JOB.", () -> {
-            NextBest x = Check.told(Tables.SQUARE);
             long[][] due = {{5, 6, 5}, {6, 5, 5}, {5, 5, 6}};
             for (int worker = 0; worker < 3; worker++) {
                 for (int job = 0; job < 3; job++) {
                     int at = worker;
                     int which = job;
-                    leaves(x, "without(" + worker + ", " + job + ")", () -> x.without(at, which), due[worker][job]);
+                    leaves(Tables.SQUARE, "without(" + worker + ", " + job + ")", x -> x.without(at, which), due[worker][job]);
                 }
             }
             due("NEVER anyway", Check.told(Tables.WIDE).without(0, 1), -1);
@@ -301,9 +299,8 @@ final class SupposedSentences extends Sentences {
             due("without workers, all of two", Check.told("jobs 2;").only(3), 0);
         });
         says("NO_SUCH: there are none (such).", () -> {
-            NextBest x = Check.told(Tables.WIDE);
             for (int set : new int[] {0, 1, 2, 4, 8, 6, 9, 16, 17, 31, 255, 256, -1, MIN, MAX}) {
-                leaves(x, "only(" + set + ")", () -> x.only(set), NO);
+                leaves(Tables.WIDE, "only(" + set + ")", x -> x.only(set), NO);
             }
             due("six for seven", Tables.full().only(63), NO);
             due("a ninth job", Tables.full().only(256), NO);
@@ -339,19 +336,19 @@ final class SupposedSentences extends Sentences {
     private void reduced() {
         under("Promise 39: reduced");
         says("REDUCED: each WORKER's COSTS less the least of them, then of each JOB what is so less the least of it (NEVER aside).", () -> {
-            NextBest x = Check.told(Tables.WIDE);
             // less 1 and -2: 4 x x 0, x 0 3 x
             long[][] due = {{0, NEVER, NEVER, 0}, {NEVER, 0, 0, NEVER}};
             for (int worker = 0; worker < 2; worker++) {
                 for (int job = 0; job < 4; job++) {
                     int at = worker;
                     int which = job;
-                    leaves(x, "reduced(" + worker + ", " + job + ")", () -> x.reduced(at, which), due[worker][job]);
+                    leaves(Tables.WIDE, "reduced(" + worker + ", " + job + ")", x -> x.reduced(at, which), due[worker][job]);
                 }
             }
             NextBest far = Check.told("jobs 2;worker -9999,9999;worker 0,0;");
             due("as much as can be", far.reduced(0, 1), 19998);
             due("the least of its job", far.reduced(1, 1), 0);
+            due("worker 0 has the least of its job", Check.told("jobs 2;worker 0,5;worker 0,9;").reduced(1, 1), 4);
             NextBest aside = Check.told("jobs 2;worker x,x;worker 3,8;worker 4,5;");
             due("a worker all NEVER is aside", aside.reduced(1, 1), 4);
             due("a worker all NEVER is aside", aside.reduced(2, 1), 0);

@@ -283,7 +283,7 @@ final class TapeSentences extends Sentences {
             due("NEVER, the last", x.cost(1, 3), NEVER);
             int[][] none = {{-1, 0}, {2, 0}, {7, 0}, {MIN, 0}, {MAX, 0}, {0, -1}, {0, 4}, {0, 8}, {1, MIN}, {1, MAX}, {2, 4}, {-1, -1}};
             for (int[] at : none) {
-                leaves(x, "cost(" + at[0] + ", " + at[1] + ")", () -> x.cost(at[0], at[1]), NO);
+                leaves(Tables.WIDE, "cost(" + at[0] + ", " + at[1] + ")", y -> y.cost(at[0], at[1]), NO);
             }
             due("worker 7 of 7", Tables.full().cost(7, 0), NO);
             due("job 8 of 8", Tables.full().cost(6, 8), NO);

@@ -184,7 +184,7 @@ final class TextSentences extends Sentences {
     }
 
     private void words() {
-        for (String word : new String[] {"job", "jobss", "Jobs", "JOBS", "a", "z", "x", "workers"}) {
+        for (String word : new String[] {"job", "jobss", "jobsa", "jobsz", "Jobs", "JOBS", "a", "z", "x", "workers"}) {
             bad(word + " 1;", 1, 0);
         }
         for (char sign : new char[] {'`', '{', 'A', 'Z', '@', '[', '_'}) {

@@ -1,4 +1,5 @@
 import java.util.function.LongSupplier;
+import java.util.function.ToLongFunction;
 
 /** Tests of the document's sentences, each by itself under the words it holds the class to. */
 public abstract class Sentences {
@@ -47,17 +48,27 @@ public abstract class Sentences {
                 after.equals(before) ? 1 : 0, 1);
     }
 
+    /** The same on an object of its own, for looking takes calls, and an object bears only so many. */
+    protected final void leaves(String text, String call, ToLongFunction<NextBest> asked, long want) {
+        NextBest x = Check.told(text);
+        leaves(x, call, () -> asked.applyAsLong(x), want);
+    }
+
     private static String look(NextBest x) {
         StringBuilder seen = new StringBuilder();
         for (int what = 0; what <= 5; what++) {
             seen.append(x.count(what)).append(' ');
         }
-        seen.append("faults ").append(x.fault(0)).append(' ').append(x.fault(1)).append(" costs ");
-        for (int worker = 0; worker < x.count(0); worker++) {
-            for (int job = 0; job < x.count(1); job++) {
-                seen.append(x.cost(worker, job)).append(' ');
+        seen.append("faults ").append(x.fault(0)).append(' ').append(x.fault(1));
+        seen.append(" sums ").append(x.sum(0)).append(' ').append(x.middle()).append(" costs");
+        int workers = x.count(0);
+        int jobs = x.count(1);
+        boolean large = workers * jobs > 12;
+        for (int worker = 0; worker < workers; worker += large ? workers - 1 : 1) {
+            for (int job = 0; job < jobs; job += large ? jobs - 1 : 1) {
+                seen.append(' ').append(x.cost(worker, job));
             }
         }
-        return seen.append("sums ").append(x.sum(0)).append(' ').append(x.sum(1)).toString();
+        return seen.toString();
     }
 }
