@@ -12,28 +12,9 @@ import java.util.TreeSet;
 import java.util.regex.Matcher;
 import java.util.regex.Pattern;
 
-/** The face of the document, and those rules of LANGUAGE.md that a look at the class can tell. */
+/** The face of the document, and those rules of LANGUAGE.md that a look at the class and its text can tell. */
 public final class LanguageTest {
     private static final Check CHECK = new Check("LanguageTest");
-
-    private static final String FACE = "public int feed(int a, int b, int c, int d, int e); public int end(int n);"
-            + " public int table(); public int fault(int what); public int count(int what);"
-            + " public long cost(int worker, int job); public long sum(int k); public int job(int k, int worker);"
-            + " public int ties(int k); public int under(long most); public int place(int told);"
-            + " public long forced(int worker, int job); public long without(int worker, int job);"
-            + " public long stays(int worker, int job, int what); public long would(int worker, int job, int v);"
-            + " public int ever(int worker); public long price(int job); public long pay(int worker);"
-            + " public long first(int rule, int limit, int what); public int firstJob(int rule, int limit, int worker);"
-            + " public long greedy(int what); public int greedyJob(int worker); public long mended(int what);"
-            + " public long auction(int step, int what); public int auctionPrice(int step, int job);"
-            + " public int auctionJob(int step, int worker); public int drawn(long seed);"
-            + " public long least(int one, int what); public long loss(int k); public long dearest(int k);"
-            + " public int apart(int k, int l); public int rounds(int k, int l, int what);"
-            + " public int often(int worker, int job, int n); public long only(int set); public int blocked();"
-            + " public long move(int told, int what); public long middle(); public long reduced(int worker, int job);"
-            + " public int noughts(); public int sets(int worker, int job, int v); public int bars(int worker, int job);"
-            + " public int tilts(int one, int v, int what); public int comes(int what, int v);"
-            + " public int goes(int one, int what); public int turn(int worker, int other); public int undo();";
 
     public static void main(String[] args) throws Exception {
         face();
@@ -48,7 +29,8 @@ public final class LanguageTest {
 
     private static void face() throws Exception {
         Set<String> due = new TreeSet<>();
-        Matcher m = Pattern.compile("public (\\w+) (\\w+)\\(([^)]*)\\);").matcher(FACE);
+        String document = Files.readString(Path.of("../shared/DOC.md"), StandardCharsets.UTF_8);
+        Matcher m = Pattern.compile("public (\\w+) (\\w+)\\(([^)]*)\\);").matcher(document);
         while (m.find()) {
             due.add(m.group(1) + " " + m.group(2) + "(" + m.group(3).replaceAll("(\\w+) \\w+", "$1").replace(" ", "") + ")");
         }

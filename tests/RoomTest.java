@@ -18,7 +18,7 @@ public final class RoomTest {
         long before = used();
         NextBest y = new NextBest();
         long made = used() - before;
-        CHECK.due("an object takes more than 40,000 bytes: " + made, made > 40000 ? 1 : 0, 0);
+        CHECK.due("an object takes more than 26,000 bytes: " + made, made > 26000 ? 1 : 0, 0);
         before = used();
         useAll(y);
         long more = used() - before;
